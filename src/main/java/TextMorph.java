@@ -520,7 +520,6 @@ public final class TextMorph {
         final int[] kindOfFirst = new int[MOST_LETTERS];
         final int[] kindOfSecond = new int[MOST_LETTERS];
         final int[] ofKind = new int[APPEARS + 1];
-        int distances = 0;
         private final State state;
         private final int[] longest = new int[SIDE * SIDE];
 
@@ -555,7 +554,6 @@ public final class TextMorph {
             Arrays.fill(ofKind, 0);
             ofKind[VANISHES] = state.text(0).letters;
             ofKind[APPEARS] = state.text(1).letters;
-            distances = 0;
         }
 
         private void pair(int first, int second, int kind) {
@@ -566,7 +564,6 @@ public final class TextMorph {
             ofKind[kind]++;
             ofKind[VANISHES]--;
             ofKind[APPEARS]--;
-            distances += distance(first, second);
         }
 
         private void pairCommon() {
@@ -825,7 +822,7 @@ public final class TextMorph {
                 case 8:
                     return motion.frames;
                 case 9:
-                    return pairs.distances;
+                    return distancesOfAll();
                 case 10:
                     return stepsOfAll();
                 default:
@@ -890,6 +887,14 @@ public final class TextMorph {
                 default:
                     return piecesLeft(frame);
             }
+        }
+
+        private int distancesOfAll() {
+            int sum = 0;
+            for (int piece = 0; piece < state.text(0).letters; piece++) {
+                sum += vanishes(piece) ? 0 : pairs.distance(piece, pairs.partnerOfFirst[piece]);
+            }
+            return sum;
         }
 
         private int stepsOfAll() {
