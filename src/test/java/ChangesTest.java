@@ -1,12 +1,5 @@
 /** Promises 1 to 7: a new object, begin, set, load, put, swap, undo. */
 public final class ChangesTest {
-    private static final Class<IndexOutOfBoundsException> INDEX = IndexOutOfBoundsException.class;
-    private static final Class<IllegalArgumentException> ARGUMENT = IllegalArgumentException.class;
-    private static final Class<IllegalStateException> STATE = IllegalStateException.class;
-    private static final int[] AT_FIRST = {2, 60, 12, 0, 0, 3, 2, 2};
-    private static final int[] LEAST = {1, 0, 0, 0, 0, 0, 0, 0};
-    private static final int[] MOST = {9, 200, 200, 1, 2, 9, 20, 20};
-
     private ChangesTest() {
     }
 
@@ -24,7 +17,7 @@ public final class ChangesTest {
 
     private static void settingsAtFirst(String when, TextMorph x) {
         for (int setting = 0; setting < 8; setting++) {
-            Check.same(when + " setting " + setting, x.setting(setting), AT_FIRST[setting]);
+            Check.same(when + " setting " + setting, x.setting(setting), Edges.AT_FIRST[setting]);
         }
     }
 
@@ -42,7 +35,7 @@ public final class ChangesTest {
     private static void promise2() {
         TextMorph x = Check.of("ab/c", "de");
         for (int setting = 0; setting < 8; setting++) {
-            x.set(setting, MOST[setting]);
+            x.set(setting, Edges.MOST[setting]);
         }
         Check.type(x, "xyz");
         Check.same("begin", x.begin(), 5);
@@ -62,17 +55,18 @@ public final class ChangesTest {
         TextMorph x = Check.of("ab", "ba");
         for (int setting = 0; setting < 8; setting++) {
             int tried = setting;
-            Check.refused("set " + setting + " too low", ARGUMENT, x, () -> x.set(tried, LEAST[tried] - 1));
-            Check.refused("set " + setting + " too high", ARGUMENT, x, () -> x.set(tried, MOST[tried] + 1));
-            Check.same("set " + setting + " to the least", x.set(setting, LEAST[setting]), AT_FIRST[setting]);
-            Check.same("setting " + setting, x.setting(setting), LEAST[setting]);
-            Check.same("set " + setting + " to the most", x.set(setting, MOST[setting]), LEAST[setting]);
-            Check.same("setting " + setting, x.setting(setting), MOST[setting]);
-            Check.same("set " + setting + " back", x.set(setting, AT_FIRST[setting]), MOST[setting]);
+            Check.refused("set " + setting + " too low", Edges.ARGUMENT, x, () -> x.set(tried, Edges.LEAST[tried] - 1));
+            Check.refused("set " + setting + " too high", Edges.ARGUMENT, x, () -> x.set(tried, Edges.MOST[tried] + 1));
+            Check.same("set " + setting + " to the least", x.set(setting, Edges.LEAST[setting]),
+                    Edges.AT_FIRST[setting]);
+            Check.same("setting " + setting, x.setting(setting), Edges.LEAST[setting]);
+            Check.same("set " + setting + " to the most", x.set(setting, Edges.MOST[setting]), Edges.LEAST[setting]);
+            Check.same("setting " + setting, x.setting(setting), Edges.MOST[setting]);
+            Check.same("set " + setting + " back", x.set(setting, Edges.AT_FIRST[setting]), Edges.MOST[setting]);
         }
-        Check.refused("set -1", INDEX, x, () -> x.set(-1, 1));
-        Check.refused("set 8", INDEX, x, () -> x.set(8, 1));
-        Check.refused("set 8 to nothing", INDEX, x, () -> x.set(8, -5));
+        Check.refused("set -1", Edges.INDEX, x, () -> x.set(-1, 1));
+        Check.refused("set 8", Edges.INDEX, x, () -> x.set(8, 1));
+        Check.refused("set 8 to nothing", Edges.INDEX, x, () -> x.set(8, -5));
         Check.same("count takes the setting", x.count(0), 9);
         x.set(6, 20);
         Check.same("count takes the setting", x.count(0), 27);
@@ -91,9 +85,9 @@ public final class ChangesTest {
         Check.same("load replaces", x.load(0), 0);
         Check.same("load replaces", x.count(1), 0);
         Check.type(x, "ab!");
-        Check.refused("load of an error", ARGUMENT, x, () -> x.load(0));
-        Check.refused("load -1", INDEX, x, () -> x.load(-1));
-        Check.refused("load 2", INDEX, x, () -> x.load(2));
+        Check.refused("load of an error", Edges.ARGUMENT, x, () -> x.load(0));
+        Check.refused("load -1", Edges.INDEX, x, () -> x.load(-1));
+        Check.refused("load 2", Edges.INDEX, x, () -> x.load(2));
         Check.same("buffer is left", x.clearBuffer(), 3);
         Check.same("saved", x.count(12), 3);
     }
@@ -111,17 +105,17 @@ public final class ChangesTest {
         Check.same("saved", x.count(12), 5);
         int[][] outside = {{-1, 0, 0}, {2, 0, 0}, {0, -1, 0}, {0, 5, 0}, {0, 0, -1}, {0, 0, 16}};
         for (int[] o : outside) {
-            Check.refused("put outside", INDEX, x, () -> x.put(o[0], o[1], o[2], 'a'));
-            Check.refused("put nothing outside", INDEX, x, () -> x.put(o[0], o[1], o[2], 0));
+            Check.refused("put outside", Edges.INDEX, x, () -> x.put(o[0], o[1], o[2], 'a'));
+            Check.refused("put nothing outside", Edges.INDEX, x, () -> x.put(o[0], o[1], o[2], 0));
         }
         for (int code : new int[] {-1, 0, 31, 33, 46, 'A', 'a' - 1, 'z' + 1, 'a' + 256}) {
-            Check.refused("put " + code, ARGUMENT, x, () -> x.put(0, 0, 0, code));
+            Check.refused("put " + code, Edges.ARGUMENT, x, () -> x.put(0, 0, 0, code));
         }
         fillTo40(x);
         Check.same("40 letters", x.count(1), 40);
-        Check.refused("a 41st letter", STATE, x, () -> x.put(0, 2, 8, 'q'));
-        Check.refused("no letter, as a 41st", ARGUMENT, x, () -> x.put(0, 2, 8, 'Q'));
-        Check.refused("a 41st nowhere", INDEX, x, () -> x.put(0, 5, 8, 'q'));
+        Check.refused("a 41st letter", Edges.STATE, x, () -> x.put(0, 2, 8, 'q'));
+        Check.refused("no letter, as a 41st", Edges.ARGUMENT, x, () -> x.put(0, 2, 8, 'Q'));
+        Check.refused("a 41st nowhere", Edges.INDEX, x, () -> x.put(0, 5, 8, 'q'));
         Check.same("another letter", x.put(0, 2, 7, 'r'), 'q');
         Check.same("blank beside", x.put(0, 2, 8, 32), 32);
         Check.same("the other text", x.put(1, 2, 8, 'q'), 32);
@@ -154,7 +148,7 @@ public final class ChangesTest {
 
     private static void promise7() {
         TextMorph x = new TextMorph();
-        Check.refused("undo of nothing", STATE, x, x::undo);
+        Check.refused("undo of nothing", Edges.STATE, x, x::undo);
         x.put(0, 0, 0, 'a');
         x.set(6, 7);
         Check.type(x, "bb");
@@ -169,7 +163,7 @@ public final class ChangesTest {
         Check.same("letter", x.letter(0, 0, 2), 'a');
         Check.same("undo the put", x.undo(), 0);
         Check.same("first text", x.count(1), 0);
-        Check.refused("undo of nothing", STATE, x, x::undo);
+        Check.refused("undo of nothing", Edges.STATE, x, x::undo);
     }
 
     private static void savedStates() {
@@ -182,7 +176,7 @@ public final class ChangesTest {
             Check.same("undo", x.undo(), left);
             Check.same("weight", x.setting(0), 3 + left);
         }
-        Check.refused("the oldest are dropped", STATE, x, x::undo);
+        Check.refused("the oldest are dropped", Edges.STATE, x, x::undo);
         Check.same("same value", x.set(0, 3), 3);
         Check.same("saves all the same", x.count(12), 1);
         x.best();

@@ -14,7 +14,7 @@ public final class PairsTest {
     }
 
     /** Each letter of the first text as its kind and its partner, then the kinds of the second text. */
-    private static String pairs(TextMorph x) {
+    static String pairs(TextMorph x) {
         StringBuilder all = new StringBuilder();
         for (int i = 0; i < x.count(1); i++) {
             int partner = x.letter(0, i, 3);
