@@ -23,6 +23,7 @@ public final class EdgesOfNumbersTest {
         promise21();
         promise21Likeness();
         promise21Middle();
+        promise21LastCall();
         Check.end();
     }
 
@@ -240,5 +241,51 @@ public final class EdgesOfNumbersTest {
         }
         x = Edges.withSetting(Check.of("a", "a"), 6, 0, 7, 0);
         Check.same("21: the only frame", x.digest(), Edges.digestByTheFace(x, ""));
+    }
+
+    /** "An object is used for at most 512 calls": the last one is answered as the first ones are. */
+    private static void promise21LastCall() {
+        TextMorph old = new TextMorph();
+        for (int call = 1; call <= 496; call++) {
+            switch (call % 8) {
+                case 0:
+                    old.put(0, call % 5, call % 16, 'a' + call % 26);
+                    break;
+                case 1:
+                    old.put(1, call % 5, call % 16, 'a' + call % 26);
+                    break;
+                case 2:
+                    old.swap();
+                    break;
+                case 3:
+                    old.digest();
+                    break;
+                case 4:
+                    old.set(5, call % 10);
+                    break;
+                case 5:
+                    old.undo();
+                    break;
+                case 6:
+                    old.append('a');
+                    break;
+                default:
+                    old.begin();
+                    break;
+            }
+            // Seven calls more.
+            if (call % 64 == 0) {
+                old.clearBuffer();
+            }
+        }
+        TextMorph young = new TextMorph();
+        old.clearBuffer();
+        for (TextMorph x : new TextMorph[] {old, young}) {
+            x.begin();
+            for (int weight = 1; weight <= 6; weight++) {
+                x.set(0, weight);
+            }
+        }
+        Check.same("21: the 512th call", old.digest(), young.digest());
     }
 }

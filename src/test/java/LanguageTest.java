@@ -74,8 +74,17 @@ public final class LanguageTest {
             Check.holds(c + " is static", Modifier.isStatic(modifiers));
             Check.holds(c + " is not public", !Modifier.isPublic(modifiers) && !Modifier.isProtected(modifiers));
         }
+        TreeSet<String> publicNames = new TreeSet<>();
+        for (Method m : TextMorph.class.getMethods()) {
+            if (m.getDeclaringClass() == TextMorph.class) {
+                publicNames.add(m.getName());
+            }
+        }
         for (Class<?> c : inner) {
             ownFields(c);
+            for (Method m : c.getDeclaredMethods()) {
+                Check.holds(m + " is no public name", !publicNames.contains(m.getName()));
+            }
         }
         ownFields(TextMorph.class);
     }
