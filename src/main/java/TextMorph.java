@@ -665,7 +665,11 @@ public final class TextMorph {
             boolean more = away > 0 || pairs.ofKind[CHANGED] > 0;
             for (int next = 1; next <= MOST_MOVING && more; next++) {
                 frames = next;
-                movePieces(next);
+                for (int piece = 0; piece < state.text(0).letters; piece++) {
+                    if (isAway(piece)) {
+                        moveOrHold(piece, next);
+                    }
+                }
                 record(next);
                 more = away > 0;
             }
@@ -702,7 +706,7 @@ public final class TextMorph {
                 if (partner != NONE) {
                     goals[piece] = state.text(1).cells[partner];
                     piecesIn[cells[piece]]++;
-                    away += cells[piece] == goals[piece] ? 0 : 1;
+                    away += isAway(piece) ? 1 : 0;
                 }
             }
         }
@@ -711,12 +715,8 @@ public final class TextMorph {
             System.arraycopy(cells, 0, track, moved * MOST_LETTERS, MOST_LETTERS);
         }
 
-        private void movePieces(int moving) {
-            for (int piece = 0; piece < state.text(0).letters; piece++) {
-                if (goals[piece] != NONE && cells[piece] != goals[piece]) {
-                    moveOrHold(piece, moving);
-                }
-            }
+        private boolean isAway(int piece) {
+            return goals[piece] != NONE && cells[piece] != goals[piece];
         }
 
         private void moveOrHold(int piece, int moving) {
